@@ -508,7 +508,7 @@ public final class LibraryVan {
         }
 
         int first() {
-            return readerAt(0);
+            return size > 0 && readers.length > 0 ? readers[0] : NOBODY;
         }
 
         int placeOf(int reader) {

@@ -11,6 +11,7 @@ public final class BooksAndReadersTest {
         promise12Cancel();
         promise13Book();
         promise14Reader();
+        promise14Reservations();
         promise15Pay();
         Check.end();
     }
@@ -190,6 +191,25 @@ public final class BooksAndReadersTest {
         Check.refusedIndex(van, "14: what 8", () -> van.reader(0, 8));
     }
 
+    private static void promise14Reservations() {
+        LibraryVan van = atHome();
+        van.addReader(0, 5, 1);
+        van.addReader(0, 5, 1);
+        for (int i = 0; i < 24; i++) {
+            van.addBook(0);
+            van.reserve(1, i);
+            van.reserve(0, i);
+            Check.equal("14: reserved, as the second", van.reader(0, 6), i + 1);
+        }
+        van.cancel(0, 0);
+        Check.equal("14: one less", van.reader(0, 6), 23);
+        Check.equal("14: of the other none less", van.reader(1, 6), 24);
+        van.pass(60);
+        Check.equal("14: all were lent", van.reader(0, 6), 0);
+        Check.equal("14: loans in all", van.reader(0, 7), 23);
+        Check.equal("14: the other has read all", van.reader(1, 4), 24);
+    }
+
     private static void readers(LibraryVan van, String when, int[][] due) {
         for (int reader = 0; reader < due.length; reader++) {
             for (int what = 0; what < 8; what++) {
@@ -213,7 +233,8 @@ public final class BooksAndReadersTest {
         Check.refusedArgument(van, "15: another owes nothing", () -> van.pay(1, 1));
         Check.equal("15: a part", van.pay(0, 2), 4);
         Check.equal("15: told", van.reader(0, 5), 4);
-        Check.equal("15: all of it", van.pay(0, 4), 0);
+        Check.equal("15: a penny", van.pay(0, 1), 3);
+        Check.equal("15: all of it", van.pay(0, 3), 0);
         Check.equal("15: nothing owed by all", van.count(7), 0);
         Check.refusedArgument(van, "15: not again", () -> van.pay(0, 1));
         Check.refusedIndex(van, "15: reader -1", () -> van.pay(-1, 1));

@@ -37,9 +37,16 @@ final class Check {
             call.run();
         } catch (RuntimeException e) {
             thrown = e.getClass();
+            isTrue(what + " is refused by a throw of the class itself", isThrownByTheVan(e));
         }
         isTrue(what + " throws " + due.getSimpleName() + ", not " + thrown, thrown == due);
         isTrue(what + " changes nothing", before.equals(picture(van)));
+    }
+
+    /** What the machine or the library throws begins elsewhere, or bears no trace at all. */
+    static boolean isThrownByTheVan(RuntimeException e) {
+        StackTraceElement[] trace = e.getStackTrace();
+        return trace.length > 0 && trace[0].getClassName().startsWith("LibraryVan");
     }
 
     static void refusedIndex(LibraryVan van, String what, Runnable call) {

@@ -7,6 +7,7 @@ public final class LookingAheadTest {
 
     public static void main(String[] args) {
         promise18Foresee();
+        promise18WhatIsNow();
         promise18WrongForesee();
         promise19Gets();
         promise19Edge();
@@ -69,6 +70,30 @@ public final class LookingAheadTest {
         Check.equal("18: all back", van.foresee(21, 2), 2);
         Check.equal("18: owed for both", van.foresee(21, 3), 12);
         Check.equal("18: owed not yet", van.foresee(20, 3), 0);
+    }
+
+    /** It begins with the mud, the misses, the pence and the day that are now. */
+    private static void promise18WhatIsNow() {
+        LibraryVan van = HaltsAndRoundTest.withHalts(2);
+        van.addLane(0, 1, 10, 9);
+        van.addBook(0);
+        van.addReader(0, 0, 16);
+        van.setRain(0, 9);
+        van.setRound(21, 40);
+        van.pass(1);
+        Check.equal("18: missed by the mud", van.halt(1, 4), 1);
+        Check.equal("18: home is served", van.halt(0, 3), 1);
+        Check.equal("18: missed by the mud that is left", van.foresee(3, 1), 3);
+        Check.equal("18: then home is missed by the minutes", van.foresee(6, 1), 4);
+        van.pass(6);
+        Check.equal("18: home was missed once", van.halt(0, 4), 1);
+        Check.equal("18: the other halt four times", van.halt(1, 4), 4);
+        Check.equal("18: it rains again on the day 7", van.foresee(1, 1), 1);
+        Check.equal("18: the book was lent on the day 0", van.foresee(9, 2), 0);
+        Check.equal("18: it comes back on the day 16", van.foresee(10, 2), 1);
+        Check.equal("18: two days late", van.foresee(10, 3), 2);
+        van.pass(10);
+        Check.equal("18: what is owed stays owed", van.foresee(60, 3), 2);
     }
 
     private static void promise18WrongForesee() {
