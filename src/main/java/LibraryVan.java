@@ -399,27 +399,24 @@ public final class LibraryVan {
         }
     }
 
-    /** The times of the quickest ways between all halts. */
+    /** The times of the quickest ways between all halts, there and back alike. */
     private static final class Ways {
         private final int[] times = new int[MAX_HALTS * MAX_HALTS];
 
         void measure(int halts, ArrayList<Lane> lanes) {
-            for (int from = 0; from < halts; from++) {
-                for (int to = 0; to < halts; to++) {
-                    write(from, to, from == to ? 0 : FAR);
-                }
+            for (int i = 0; i < times.length; i++) {
+                times[i] = FAR;
             }
             for (int i = 0; i < lanes.size(); i++) {
                 Lane lane = lanes.get(i);
                 if (lane.isUsable()) {
                     shorten(lane.a, lane.b, lane.minutes());
-                    shorten(lane.b, lane.a, lane.minutes());
                 }
             }
             for (int via = 0; via < halts; via++) {
                 for (int from = 0; from < halts; from++) {
                     int there = time(from, via);
-                    for (int to = 0; there < FAR && to < halts; to++) {
+                    for (int to = 0; there < FAR && to < from; to++) {
                         shorten(from, to, there + time(via, to));
                     }
                 }
@@ -427,19 +424,16 @@ public final class LibraryVan {
         }
 
         int time(int from, int to) {
-            int place = from * MAX_HALTS + to;
+            if (from == to) {
+                return 0;
+            }
+            int place = from > to ? from * MAX_HALTS + to : to * MAX_HALTS + from;
             return place >= 0 && place < times.length ? times[place] : FAR;
         }
 
         private void shorten(int from, int to, int minutes) {
-            if (minutes < time(from, to)) {
-                write(from, to, minutes);
-            }
-        }
-
-        private void write(int from, int to, int minutes) {
-            int place = from * MAX_HALTS + to;
-            if (place >= 0 && place < times.length) {
+            int place = from > to ? from * MAX_HALTS + to : to * MAX_HALTS + from;
+            if (place >= 0 && place < times.length && minutes < times[place]) {
                 times[place] = minutes;
             }
         }
@@ -725,42 +719,32 @@ public final class LibraryVan {
             }
         }
 
-        private void takeBooksBack(int halt) {
-            for (int i = 0; i < readers.size(); i++) {
-                Reader reader = readers.get(i);
-                if (reader.halt == halt) {
-                    takeBooksOf(reader);
-                }
-            }
-        }
+        // Here, and with reserved books, no reader's books touch another's, and each reader's
+        // still come in their order: one look at each book does as well as reader by reader.
 
-        private void takeBooksOf(Reader reader) {
+        private void takeBooksBack(int halt) {
             for (int i = 0; i < books.size(); i++) {
                 Book book = books.get(i);
-                int days = day - book.since;
-                if (book.holder == reader.number && days >= reader.keeps) {
-                    book.comeBackFrom(reader, days);
+                Reader reader = readerWith(book.holder);
+                if (reader != null && reader.halt == halt && day - book.since >= reader.keeps) {
+                    book.comeBackFrom(reader, day - book.since);
                 }
             }
         }
 
         private void lendReservedBooks(int halt) {
-            for (int i = 0; i < readers.size(); i++) {
-                Reader reader = readers.get(i);
-                if (reader.halt == halt) {
-                    lendReservedBooksTo(reader);
-                }
-            }
-        }
-
-        private void lendReservedBooksTo(Reader reader) {
-            for (int i = 0; i < books.size() && reader.takesMore(); i++) {
+            for (int i = 0; i < books.size(); i++) {
                 Book book = books.get(i);
-                if (book.isOnVan() && book.queue.first() == reader.number) {
+                Reader reader = book.isOnVan() ? readerWith(book.queue.first()) : null;
+                if (reader != null && reader.halt == halt && reader.takesMore()) {
                     book.queue.dropPlace(0);
                     book.lendTo(reader, day);
                 }
             }
+        }
+
+        private Reader readerWith(int number) {
+            return number >= 0 && number < readers.size() ? readers.get(number) : null;
         }
 
         private void lendOtherBooks(int halt) {
