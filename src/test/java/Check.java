@@ -1,3 +1,4 @@
+import java.math.BigInteger;
 import java.util.ArrayList;
 import java.util.List;
 
@@ -90,6 +91,15 @@ final class Check {
             answers.add((long) van.advise(30));
         }
         return answers;
+    }
+
+    /** The checksum of these numbers, by whole numbers without a bound. */
+    static long digestOf(int... numbers) {
+        BigInteger d = BigInteger.valueOf(607);
+        for (int x : numbers) {
+            d = d.multiply(BigInteger.valueOf(31)).add(BigInteger.valueOf(x));
+        }
+        return d.longValue();
     }
 
     static void end() {
