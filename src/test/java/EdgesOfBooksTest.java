@@ -356,7 +356,8 @@ public final class EdgesOfBooksTest {
         int[][] due = {{0, 5, 30, 0, 0, 0, 0, 0}, {0, 0, 1, 0, 0, 0, 0, 0}};
         for (int reader = 0; reader < 2; reader++) {
             for (int what = 0; what <= 7; what++) {
-                Check.equal("14: a new reader, " + what, van.reader(reader, what), due[reader][what]);
+                Check.equal("14: a new reader, " + what,
+                        van.reader(reader, what), due[reader][what]);
             }
         }
         for (int wrong : new int[] {LEAST, -1, 8, MOST}) {

@@ -23,6 +23,8 @@ public final class EdgesOfDaysTest {
         foresee1To60();
         foreseeWhat0To3();
         foreseeFromAnyDay();
+        aheadFromTheMudOfNow();
+        aheadThroughTheRainToCome();
         gets0And1();
         getsAtMost100();
         getsNever();
@@ -240,6 +242,62 @@ public final class EdgesOfDaysTest {
         Check.equal("18: with what is owed now", van.foresee(29, 3), 16);
         Check.equal("18: and what comes to it", van.foresee(30, 3), 32);
         Check.isTrue("18: nothing is changed", before.equals(Check.picture(van)));
+    }
+
+    /** A reader at the halt 1, and a lane of clay 4 to it, with this mud at the day 2. */
+    private static LibraryVan withMud(int mud) {
+        LibraryVan van = HaltsAndRoundTest.withHalts(2);
+        van.addLane(0, 1, 10, 4);
+        van.addBook(0);
+        van.addReader(1, 0, 30);
+        van.setRain(0, 9);
+        van.setRain(1, mud - 9);
+        van.pass(2);
+        Check.equal("18: the mud now", van.lane(0, 4), mud);
+        return van;
+    }
+
+    /** Promises 18 to 20, by the mud "as it is now", which dries by 2 ahead of the round. */
+    private static void aheadFromTheMudOfNow() {
+        int[] muds = {12, 13, 14, 15, 16, 17, 18};
+        int[] due = {1, 1, 1, 2, 2, 3, 3};
+        for (int i = 0; i < muds.length; i++) {
+            LibraryVan van = withMud(muds[i]);
+            Check.equal("20: not in a day less", van.advise(Math.max(1, due[i] - 1)),
+                    due[i] == 1 ? 1 : -1);
+            Check.equal("20: in so many days, mud " + muds[i], van.advise(due[i]), 1);
+            van.setRound(2, 300);
+            Check.equal("19: mud " + muds[i], van.gets(0, 0), due[i]);
+            Check.equal("18: missed, mud " + muds[i], van.foresee(4, 1), due[i] - 1);
+            Check.equal("18: served in so many days", van.foresee(due[i], 0), 1);
+            Check.equal("18: the mud stays", van.lane(0, 4), muds[i]);
+            Check.equal("18: it comes so", van.pass(due[i]), 1);
+        }
+    }
+
+    /** Promises 18 to 20, by the rain of the table from the day that is now on. */
+    private static void aheadThroughTheRainToCome() {
+        LibraryVan van = withMud(12);
+        van.setRound(2, 300);
+        van.setRain(2, 1);
+        Check.equal("19: from 12 to 13, and then to 11", van.gets(0, 0), 2);
+        van.setRain(2, 2);
+        van.setRain(3, 0);
+        Check.equal("19: from 12 to 14, and then to 12", van.gets(0, 0), 2);
+        van.setRain(2, 3);
+        Check.equal("19: from 12 to 15, 13 and 11", van.gets(0, 0), 3);
+        Check.equal("18: missed twice in the rest of the week", van.foresee(5, 1), 2);
+        Check.equal("18: in 3 days", van.foresee(3, 0), 1);
+        Check.equal("18: not in 2 days", van.foresee(2, 0), 0);
+        van.setRound(0, 300);
+        Check.equal("20: in 3 days", van.advise(3), 1);
+        Check.equal("20: not in 2 days", van.advise(2), -1);
+        for (int day = 0; day < 7; day++) {
+            van.setRain(day, 1);
+        }
+        van.setRound(2, 300);
+        Check.equal("19: not in a wet year", van.gets(0, 0), -1);
+        Check.equal("20: nor with more", van.advise(30), -1);
     }
 
     /** Promise 19: "(1 if it is lent in the day that is now); 0 if this one has it now". */

@@ -300,6 +300,27 @@ public final class EdgesOfHaltsTest {
         Check.equal("8: one that takes as long", van.way(3, 0), 28);
         van.addLane(0, 3, 27, 0);
         Check.equal("8: one that takes a minute less", van.way(3, 0), 27);
+        quickestWayThroughEachHalt();
+    }
+
+    /** Each halt, home too, can be in the middle of a way. */
+    private static void quickestWayThroughEachHalt() {
+        for (int middle = 0; middle < 8; middle++) {
+            LibraryVan van = withHalts(8);
+            for (int halt = 0; halt < 8; halt++) {
+                if (halt != middle) {
+                    van.addLane(middle, halt, 1 + halt, 0);
+                }
+            }
+            for (int from = 0; from < 8; from++) {
+                for (int to = 0; to < 8; to++) {
+                    int there = from == middle ? 0 : 1 + from;
+                    int on = to == middle ? 0 : 1 + to;
+                    int due = from == to ? 0 : there + on;
+                    Check.equal("8: through " + middle, van.way(from, to), due);
+                }
+            }
+        }
     }
 
     /** "(0 for the same halt)". */

@@ -25,8 +25,8 @@ public final class GridTest {
     private static final int[] DAYS = {LEAST, -1, 0, 1, 30, 31, 60, 61, MOST};
     private static final int[] PENCE = {LEAST, -1, 0, 1, 2, 15, 16, 17, 32, 33, MOST};
     private static final int[] MINUTES = {LEAST, -1, 0, 9, 10, 300, 301, MOST};
-    private static final int[] ROUNDS = {LEAST, -11, -1, 0, 1, 2, 3, 4, 8, 9, 10, 11, 18, 19, 81, 91,
-        101, 110, 1111111, 1111110, 1011111, 10000000, 11111110, 10111111, 11111111, 11111119,
+    private static final int[] ROUNDS = {LEAST, -11, -1, 0, 1, 2, 3, 4, 8, 9, 10, 11, 18, 19, 81,
+        91, 101, 110, 1111111, 1111110, 1011111, 10000000, 11111110, 10111111, 11111111, 11111119,
         91111111, 22222222, 33333333, 88888888, 88888889, 99999999, 100000000, 111111111, MOST};
 
     private final String name;
