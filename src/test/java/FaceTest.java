@@ -40,6 +40,7 @@ public final class FaceTest {
     public static void main(String[] args) {
         theFace();
         nothingElse();
+        withinTheLanguage();
         noNewObjects();
         Check.end();
     }
@@ -91,6 +92,46 @@ public final class FaceTest {
         for (Class<?> inside : LibraryVan.class.getDeclaredClasses()) {
             Check.isTrue(inside + " is static", Modifier.isStatic(inside.getModifiers()));
         }
+    }
+
+    /** What can be seen of LANGUAGE.md's rules 1 to 3, 5 and 11 from outside the file. */
+    private static void withinTheLanguage() {
+        Class<?>[] inside = LibraryVan.class.getDeclaredClasses();
+        Check.isTrue((inside.length + 1) + " classes are some twelve", inside.length < 12);
+        keepsToTheLanguage(LibraryVan.class);
+        for (Class<?> one : inside) {
+            Check.isTrue(one + " is not public or protected",
+                    (one.getModifiers() & (Modifier.PUBLIC | Modifier.PROTECTED)) == 0);
+            Check.equal("classes inside " + one, one.getDeclaredClasses().length, 0);
+            keepsToTheLanguage(one);
+        }
+    }
+
+    private static void keepsToTheLanguage(Class<?> one) {
+        int fields = 0;
+        for (Field field : one.getDeclaredFields()) {
+            boolean isStatic = Modifier.isStatic(field.getModifiers());
+            fields += isStatic ? 0 : 1;
+            Check.isTrue(field + " is a constant, if it is static",
+                    !isStatic || Modifier.isFinal(field.getModifiers()));
+            Check.isTrue(field + " is of a type that the language has", isOfTheLanguage(field));
+        }
+        Check.isTrue(fields + " fields of " + one + " are some twenty", fields <= 20);
+        for (Method method : one.getDeclaredMethods()) {
+            Check.isTrue(method + " takes at most seven", method.getParameterCount() <= 7);
+            Check.isTrue(method + " is written, not made by javac", !method.isSynthetic());
+        }
+    }
+
+    private static boolean isOfTheLanguage(Field field) {
+        Class<?> type = field.getType();
+        if (type == java.util.ArrayList.class) {
+            return field.getGenericType().getTypeName().contains("<LibraryVan$");
+        }
+        while (type.isArray()) {
+            type = type.getComponentType();
+        }
+        return type.isPrimitive() || type.getName().startsWith("LibraryVan$");
     }
 
     /** All 512 calls live in one room: the dearest ones must not make objects of their own. */
